@@ -652,6 +652,8 @@ public final class BlockCross {
      *
      * <p>A FIRM's sellers can give to all buyers but its own, so two FIRMS' sellers reach all buyers.
      * A cut of that net parts off one FIRM, one side or nothing, and the few bounds below are all there are.
+     * (What a FIRM must sell and must buy is no more together than the most, if each is no more than
+     * others may have on the other side.)
      */
     private static final class Sums {
         private final int[] low = new int[2 * FIRMS];
@@ -693,29 +695,24 @@ public final class BlockCross {
             int most = Math.min(highOfSide[SELLER], highOfSide[BUYER]);
             int needed = Math.max(lowOfSide[SELLER], lowOfSide[BUYER]);
             for (int firm = 0; firm < FIRMS; firm++) {
-                int lowSells = low[firm];
-                int lowBuys = low[FIRMS + firm];
                 int othersSell = highOfSide[SELLER] - high[firm];
                 int othersBuy = highOfSide[BUYER] - high[FIRMS + firm];
-                if (lowSells > othersBuy || lowBuys > othersSell) {
+                if (low[firm] > othersBuy || low[FIRMS + firm] > othersSell) {
                     return NONE;
                 }
                 most = Math.min(most, othersSell + othersBuy);
-                needed = Math.max(needed, lowSells + lowBuys);
             }
             return needed <= most ? most : NONE;
         }
 
-        /** By how much a FIRM's low on a side could be raised, when so much is given together. */
-        private int spare(int side, int firm, int volume) {
+        /** By how much a FIRM's low on a side could be raised, the most being given together. */
+        private int spare(int side, int firm, int most) {
             if (!isCell(side, firm)) {
                 return 0;
             }
             int other = 1 - side;
-            int own = low[side * FIRMS + firm];
             int across = highOfSide[other] - high[other * FIRMS + firm];
-            int spare = Math.min(volume - lowOfSide[side], across - own);
-            return Math.min(spare, volume - own - low[other * FIRMS + firm]);
+            return Math.min(most - lowOfSide[side], across - low[side * FIRMS + firm]);
         }
     }
 

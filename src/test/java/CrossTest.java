@@ -160,6 +160,15 @@ public final class CrossTest {
         z.amend(2, 1, 6);
         DUE.is(11, "all have less than 7", z.why(0), 3);
         DUE.is(11, "the buyer wants more", z.why(1), 4);
+        // 4 and 6 are all or none, so 9 can't be given, whoever else takes part
+        BlockCross v = Due.desk("mid 5;buy 9 9 5 2;sell 4 4 5 1;sell 6 6 5 3;buy 10 2 5 0;");
+        DUE.is(11, "in no SET, though others trade", v.why(0), 4);
+        DUE.is(11, "CHOSEN", v.why(3), 0);
+        v.amend(0, 0, 7);
+        v.amend(3, 0, 10);
+        DUE.is(11, "still all or none", v.why(0), 4);
+        v.amend(1, 0, 1);
+        DUE.is(11, "it could take 6 and 3", v.why(0), 5);
     }
 
     private static void volumes() {
@@ -247,6 +256,10 @@ public final class CrossTest {
         x.withdraw(2);
         DUE.is(16, "none is found", x.reach(0), 0);
         DUE.is(16, "not OPEN", x.reach(1), -1);
+        BlockCross y = Due.desk("mid 5;buy 10 10 5 0;sell 4 4 5 1;sell 3 3 5 2;");
+        DUE.is(16, "below its LEAST", y.reach(0), 7);
+        DUE.is(16, "nothing is changed by it", y.chosen(5, 0), 0);
+        DUE.is(16, "nothing is changed by it", y.run(), 0);
         DUE.is(16, "a SIZE of 1", Due.desk("mid 5;buy 1 1 5 0;sell 4 1 5 1;").reach(0), 1);
     }
 }

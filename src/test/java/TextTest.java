@@ -118,6 +118,9 @@ public final class TextTest {
         bad("mid 5;bux 1 1 1 1;", 6, 1);
         bad("mid 5;sel 1 1 1 1;", 6, 1);
         bad("mid 5;buys 1 1 1 1;", 6, 1);
+        bad("mid 5;buyz 1 1 1 1;", 6, 1);
+        bad("mid 5;buya 1 1 1 1;", 6, 1);
+        bad("mid ,;", 4, 1);
         bad("mid 5;buy 1 1 1;", 15, 1);
         bad("mid 5;buy 1 1 1 1 1;", 18, 1);
         bad("mid 5;buy buy 1 1 1;", 10, 1);
