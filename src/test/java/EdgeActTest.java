@@ -131,6 +131,9 @@ public final class EdgeActTest {
         edge(18, "NONE: DONE", PAIR, "run, ! withdraw 1 = -1");
         edge(18, "NONE: none at all", "! withdraw 0 = -1");
         edge(18, "NONE: behind the last", PAIR, "! withdraw 2 = -1");
+        edge(18, "NONE: two behind the last", PAIR, "! withdraw 3 = -1");
+        edge(18, "NONE: 23 of two", PAIR, "! withdraw 23 = -1");
+        edge(18, "NONE: 24 of two", PAIR, "! withdraw 24 = -1");
         edge(18, "NONE: -1", PAIR, "! withdraw -1 = -1");
         edge(18, "NONE: MIN", PAIR, "! withdraw MIN = -1");
         edge(18, "NONE: MAX", PAIR, "! withdraw MAX = -1");
@@ -179,6 +182,9 @@ public final class EdgeActTest {
         edge(19, "what MAX", PAIR, "! amend 0 MAX 1 = -1");
         edge(19, "NONE: none at all", "! amend 0 0 1 = -1, ! amend 0 1 1 = -1");
         edge(19, "NONE: behind the last", PAIR, "! amend 2 0 1 = -1, ! amend 2 1 1 = -1");
+        edge(19, "NONE: two behind the last", PAIR, "! amend 3 0 1 = -1, ! amend 3 1 1 = -1");
+        edge(19, "NONE: 23 of two", PAIR, "! amend 23 0 1 = -1, ! amend 23 1 1 = -1");
+        edge(19, "NONE: 24 of two", PAIR, "! amend 24 0 1 = -1, ! amend 24 1 1 = -1");
         edge(19, "NONE: -1", PAIR, "! amend -1 0 1 = -1, ! amend -1 1 1 = -1");
         edge(19, "NONE: MIN", PAIR, "! amend MIN 0 1 = -1");
         edge(19, "NONE: MAX", PAIR, "! amend MAX 0 1 = -1");
@@ -218,6 +224,9 @@ public final class EdgeActTest {
         edge(21, "each gets its FILL", "tell mid 5;sell 8 1 5 1;sell 9 1 5 2;sell 10 1 5 3;buy 15 15 5 0;",
             "run = 15, order 0 7 = 1, order 1 7 = 4, order 2 7 = 10, order 3 7 = 15, order 0 1 = 7, order 1 1 = 5, order 2 1 = 0, order 3 1 = 0");
         edge(21, "what is not CHOSEN stays", "tell mid 5;sell 10 10 5 1;sell 10 10 5 2;buy 10 10 5 0;", "run = 10, order 1 1 = 10, order 1 2 = 10, order 1 5 = 0, order 1 7 = 0");
+        edge(21, "the ORDER 0 is WILLING and not CHOSEN", "tell mid 5;sell 9 9 5 1;sell 10 10 5 2;buy 10 9 5 0;", "run = 10, now 7 = 6, order 0 1 = 9, order 0 5 = 0");
+        edge(21, "two buyers of one FIRM, what others sell bounds them", "tell mid 5;buy 6 1 5 1;buy 6 1 5 1;sell 9 1 5 1;sell 2 1 5 0;buy 3 1 5 0;",
+            "run = 5, now 7 = 31, order 0 7 = 1, order 1 7 = 1, order 2 7 = 3, order 3 7 = 2, order 4 7 = 3");
         edge(21, "at the MIDPOINT as it is", PAIR, "mid 4, run = 0, mid 6, run = 0, mid 5, run = 6");
         edge(21, "the MIDPOINT stays", PAIR, "run, now 2 = 5");
         edge(21, "5 times 999", "5* come 1 999 999 0 0, 5* come 0 999 999 0 1, run = 4995, now 1 = 0, now 7 = 1023");

@@ -6,6 +6,12 @@ public final class EdgeCrossTest {
     /** ORDER 0 is OPEN, 1 is DONE, 2 is WITHDRAWN. */
     private static final String[] KINDS = {"tell mid 5;buy 9 3 5 0;sell 4 1 5 1;buy 7 2 4 2;", "run = 4, withdraw 2 = 7"};
 
+    /** 9 all or none, or 10 all or none, for one buyer: the first by number is not CHOSEN. */
+    private static final String FIRST_OUT = "tell mid 5;sell 9 9 5 1;sell 10 10 5 2;buy 10 9 5 0;";
+    /** FIRM 1 can buy 2 and sell 3, though it has much more on each side. */
+    private static final String BUYERS_OF_ONE = "tell mid 5;buy 6 1 5 1;buy 6 1 5 1;sell 9 1 5 1;sell 2 1 5 0;buy 3 1 5 0;";
+    private static final String SELLERS_OF_ONE = "tell mid 5;sell 6 1 5 1;sell 6 1 5 1;buy 9 1 5 1;buy 2 1 5 0;sell 3 1 5 0;";
+
     public static void main(String[] args) {
         nowOrders();
         nowRuns();
@@ -150,6 +156,9 @@ public final class EdgeCrossTest {
     private static void orderThrows() {
         edge(7, "no such one: none at all", "! order 0 0 throws");
         edge(7, "no such one: behind the last", KINDS[0], KINDS[1], "! order 3 0 throws");
+        edge(7, "no such one: two behind the last", KINDS[0], KINDS[1], "! order 4 0 throws");
+        edge(7, "no such one: 23 of three", KINDS[0], KINDS[1], "! order 23 0 throws");
+        edge(7, "no such one: 24 of three", KINDS[0], KINDS[1], "! order 24 0 throws");
         edge(7, "the last is one", KINDS[0], KINDS[1], "order 2 0 = 1");
         edge(7, "no such one: -1", KINDS[0], KINDS[1], "! order -1 0 throws");
         edge(7, "no such one: 24 of 24", gone(24), "order 23 0 = 0, order 24 0 throws, now 0 = 24");
@@ -226,6 +235,9 @@ public final class EdgeCrossTest {
         edge(9, "of the buyers, too", "tell mid 5;buy 10 10 5 1;buy 10 10 5 2;sell 10 10 5 0;", "chosen 5 1 = 5");
         edge(9, "RANK goes by what is left", "tell mid 5;sell 20 1 5 1;sell 9 9 7 2;buy 12 12 5 0;", "run = 12, amend 0 0 8, mid 7, come 1 9 8 7 0, chosen 7 0 = 9, chosen 7 1 = 10");
         edge(9, "nothing can TRADE: no ORDERS", "tell mid 5;buy 9 9 5 0;sell 8 1 5 1;", "chosen 5 0 = 0, chosen 5 1 = 0");
+        edge(9, "the ORDER 0 is WILLING and not CHOSEN", FIRST_OUT, "chosen 5 0 = 10, chosen 5 1 = 6");
+        edge(9, "two buyers of one FIRM, what others sell bounds it", BUYERS_OF_ONE, "chosen 5 0 = 5, chosen 5 1 = 31");
+        edge(9, "two sellers of one FIRM, what others buy bounds it", SELLERS_OF_ONE, "chosen 5 0 = 5, chosen 5 1 = 31");
         edge(9, "one FIRM alone", "tell mid 5;buy 9 1 5 0;sell 9 1 5 0;", "chosen 5 0 = 0, chosen 5 1 = 0");
         edge(9, "ten, all of SIZE 999", "5* come 1 999 999 0 0, 5* come 0 999 999 0 1, chosen 0 0 = 4995, chosen 0 1 = 1023");
     }
@@ -240,6 +252,9 @@ public final class EdgeCrossTest {
         edge(10, "buyers and sellers in one RANK", "tell mid 5;buy 8 1 5 0;buy 7 1 5 1;sell 9 1 5 2;sell 3 1 5 3;", "fill 2 = 9, fill 0 = 8, fill 1 = 4, fill 3 = 3");
         edge(10, "the first of FIRM 0 buys of others alone", "tell mid 5;buy 20 1 5 0;buy 10 1 5 1;sell 15 1 5 0;sell 6 1 5 1;", "fill 0 = 6, fill 1 = 10, fill 2 = 10, fill 3 = 6");
         edge(10, "the VOLUME is kept, not only the first served", "tell mid 5;buy 9 1 5 0;sell 8 1 5 0;sell 5 1 5 1;buy 4 1 5 1;", "fill 0 = 5, fill 1 = 4, fill 2 = 5, fill 3 = 4");
+        edge(10, "the ORDER 0 is WILLING and not CHOSEN", FIRST_OUT, "fill 0 = 0, fill 1 = 10, fill 2 = 10");
+        edge(10, "two buyers of one FIRM, what others sell bounds them", BUYERS_OF_ONE, "fill 0 = 1, fill 1 = 1, fill 2 = 3, fill 3 = 2, fill 4 = 3");
+        edge(10, "two sellers of one FIRM, what others buy bounds them", SELLERS_OF_ONE, "fill 0 = 1, fill 1 = 1, fill 2 = 3, fill 3 = 2, fill 4 = 3");
         edge(10, "at the MIDPOINT as it is", "tell mid 5;buy 9 1 5 0;sell 8 1 5 1;", "fill 0 = 8, mid 6, fill 0 = 0");
         edge(10, "of 1", "tell mid 5;buy 1 1 5 0;sell 1 1 5 1;", "fill 0 = 1, fill 1 = 1");
         edge(10, "of 999", "tell mid 5;buy 999 999 5 0;sell 999 999 5 1;", "fill 0 = 999, fill 1 = 999");
@@ -256,6 +271,9 @@ public final class EdgeCrossTest {
         edge(10, "0: WITHDRAWN that could trade", "tell mid 5;buy 9 1 5 0;sell 8 1 5 1;sell 7 1 5 2;", "fill 2 = 1, withdraw 2, fill 2 = 0, fill 1 = 8");
         edge(10, "NONE: none at all", "! fill 0 = -1");
         edge(10, "NONE: behind the last", KINDS[0], KINDS[1], "! fill 3 = -1");
+        edge(10, "NONE: two behind the last", KINDS[0], KINDS[1], "! fill 4 = -1");
+        edge(10, "NONE: 23 of a few", KINDS[0], KINDS[1], "! fill 23 = -1");
+        edge(10, "NONE: 24 of a few", KINDS[0], KINDS[1], "! fill 24 = -1");
         edge(10, "NONE: -1", KINDS[0], KINDS[1], "! fill -1 = -1");
         edge(10, "NONE: MIN", KINDS[0], KINDS[1], "! fill MIN = -1");
         edge(10, "NONE: MAX", KINDS[0], KINDS[1], "! fill MAX = -1");
@@ -283,6 +301,9 @@ public final class EdgeCrossTest {
         edge(11, "NONE: DONE", two, "run, ! why 1 = -1");
         edge(11, "NONE: none at all", "! why 0 = -1");
         edge(11, "NONE: behind the last", two, "! why 2 = -1");
+        edge(11, "NONE: two behind the last", two, "! why 3 = -1");
+        edge(11, "NONE: 23 of a few", two, "! why 23 = -1");
+        edge(11, "NONE: 24 of a few", two, "! why 24 = -1");
         edge(11, "NONE: -1", two, "! why -1 = -1");
         edge(11, "NONE: MIN", two, "! why MIN = -1");
         edge(11, "NONE: MAX", two, "! why MAX = -1");
@@ -336,6 +357,8 @@ public final class EdgeCrossTest {
         edge(12, "a FIRM's LEASTS on one side, one more than others have across", "tell mid 5;sell 9 2 5 0;sell 9 4 5 0;buy 9 1 5 0;buy 5 1 5 1;sell 9 1 5 1;", "volume 31 = -2");
         edge(12, "a FIRM's buyers' LEASTS, one more than others sell", "tell mid 5;buy 9 2 5 0;buy 9 4 5 0;sell 9 1 5 0;sell 5 1 5 1;buy 9 1 5 1;", "volume 31 = -2");
         edge(12, "FIRM 5 apart as well", "tell mid 5;buy 9 1 5 5;sell 9 1 5 5;", "volume 3 = -2");
+        edge(12, "two buyers of one FIRM, what others sell bounds it", BUYERS_OF_ONE, "volume 31 = 5");
+        edge(12, "two sellers of one FIRM, what others buy bounds it", SELLERS_OF_ONE, "volume 31 = 5");
         edge(12, "three FIRMS, what one can give others bounds it", "tell mid 5;buy 20 1 5 0;sell 20 1 5 0;buy 3 1 5 1;sell 4 1 5 2;", "volume 15 = 7");
         edge(12, "1 of 1", "tell mid 5;buy 1 1 5 0;sell 1 1 5 1;", "volume 3 = 1");
         edge(12, "5 times 999", "5* come 1 999 999 0 0, 5* come 0 999 999 0 1, volume 1023 = 4995");
@@ -380,6 +403,7 @@ public final class EdgeCrossTest {
         edge(13, "not one DONE", "tell mid 10;buy 9 1 50 0;sell 5 1 10 1;sell 4 1 20 2;", "run = 5, best = 20, withdraw 2, best = 0");
         edge(13, "the MIDPOINT as it is does not matter", "tell mid 999;buy 9 1 40 0;sell 9 1 30 1;", "best = 30, mid 0, best = 30, now 2 = 0");
         edge(13, "a later seller of lower LIMIT", "tell mid 5;buy 4 1 50 0;sell 9 1 30 1;sell 9 1 20 2;", "best = 20");
+        edge(13, "the ORDER 0 is WILLING and not CHOSEN", FIRST_OUT, "best = 5, amend 0 1 4, best = 5");
     }
 
     private static void weres() {
@@ -400,6 +424,9 @@ public final class EdgeCrossTest {
         edge(14, "not WILLING: the VOLUME as it is", desk, "amend 0 0 7, were 3 1 = 7");
         edge(14, "NONE: none at all", "! were 0 1 = -1");
         edge(14, "NONE: behind the last", desk, "! were 4 1 = -1");
+        edge(14, "NONE: two behind the last", desk, "! were 5 1 = -1");
+        edge(14, "NONE: 23 of a few", desk, "! were 23 1 = -1");
+        edge(14, "NONE: 24 of a few", desk, "! were 24 1 = -1");
         edge(14, "NONE: ORDER -1", desk, "! were -1 1 = -1");
         edge(14, "NONE: ORDER MIN", desk, "! were MIN 1 = -1");
         edge(14, "NONE: ORDER MAX", desk, "! were MAX 1 = -1");
@@ -407,6 +434,7 @@ public final class EdgeCrossTest {
         edge(14, "NONE: WITHDRAWN", desk, "withdraw 1, ! were 1 1 = -1");
         edge(14, "NONE: DONE", "tell mid 5;buy 10 1 5 0;sell 4 1 5 1;", "run, ! were 1 1 = -1, ! were 1 0 = -1");
         edge(14, "the others have theirs", desk, "were 0 5 = 7, amend 0 0 5, were 1 1 = 7");
+        edge(14, "the ORDER 0 is WILLING and not CHOSEN", FIRST_OUT, "were 2 8 = 10, were 0 1 = 10, were 1 9 = 10");
         edge(14, "it changes nothing then", desk, "were 0 1 = 7, chosen 5 0 = 0, order 0 2 = 10, fill 0 = 0, volume 7 = -2, now 8 = 0");
     }
 
@@ -420,8 +448,13 @@ public final class EdgeCrossTest {
         edge(15, "not CHOSEN: 0", "tell mid 5;sell 10 10 5 1;sell 10 10 5 2;buy 10 10 5 0;", "worth 1 = 0");
         edge(15, "CHOSEN, but another would do: 0", "tell mid 5;sell 10 10 5 1;sell 10 10 5 2;buy 10 10 5 0;", "fill 0 = 10, worth 0 = 0, worth 2 = 10");
         edge(15, "its FIRM's other side is no help", "tell mid 5;buy 9 1 5 0;sell 9 1 5 0;sell 4 1 5 1;", "worth 2 = 4, worth 1 = 0");
+        edge(15, "the ORDER 0 is WILLING and not CHOSEN", FIRST_OUT, "worth 0 = 0, worth 1 = 1, worth 2 = 10");
+        edge(15, "one not WILLING, the ORDER 0 not CHOSEN", FIRST_OUT, "come 1 5 5 4 3 = 3, worth 3 = 0");
         edge(15, "NONE: none at all", "! worth 0 = -1");
         edge(15, "NONE: behind the last", desk, "! worth 5 = -1");
+        edge(15, "NONE: two behind the last", desk, "! worth 6 = -1");
+        edge(15, "NONE: 23 of a few", desk, "! worth 23 = -1");
+        edge(15, "NONE: 24 of a few", desk, "! worth 24 = -1");
         edge(15, "NONE: -1", desk, "! worth -1 = -1");
         edge(15, "NONE: MIN", desk, "! worth MIN = -1");
         edge(15, "NONE: MAX", desk, "! worth MAX = -1");
@@ -452,12 +485,16 @@ public final class EdgeCrossTest {
         edge(16, "the other's LEAST bounds it", "tell mid 5;sell 10 1 5 1;sell 9 4 5 2;buy 10 10 5 0;", "reach 0 = 10, amend 1 0 9, reach 1 = 9");
         edge(16, "first by RANK with another SET of like VOLUME", "tell mid 5;sell 10 1 5 1;sell 10 10 5 2;buy 10 10 5 0;", "reach 0 = 10, reach 1 = 9");
         edge(16, "SIZE is what is left", "tell mid 5;buy 10 1 5 0;sell 4 1 5 1;", "run = 4, come 0 9 1 5 1, reach 0 = 6");
+        edge(16, "the ORDER 0 is WILLING and not CHOSEN", FIRST_OUT, "reach 0 = 0, reach 1 = 10, reach 2 = 10");
         edge(16, "NONE: not WILLING", desk, "! reach 3 = -1");
         edge(16, "NONE: a buyer not WILLING", desk, "amend 0 1 4, ! reach 0 = -1");
         edge(16, "NONE: WITHDRAWN", desk, "withdraw 0, ! reach 0 = -1");
         edge(16, "NONE: DONE", desk, "run, ! reach 1 = -1");
         edge(16, "NONE: none at all", "! reach 0 = -1");
         edge(16, "NONE: behind the last", desk, "! reach 4 = -1");
+        edge(16, "NONE: two behind the last", desk, "! reach 5 = -1");
+        edge(16, "NONE: 23 of a few", desk, "! reach 23 = -1");
+        edge(16, "NONE: 24 of a few", desk, "! reach 24 = -1");
         edge(16, "NONE: -1", desk, "! reach -1 = -1");
         edge(16, "NONE: MIN", desk, "! reach MIN = -1");
         edge(16, "NONE: MAX", desk, "! reach MAX = -1");
