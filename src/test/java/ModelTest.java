@@ -6,6 +6,8 @@ import java.util.NoSuchElementException;
 public final class ModelTest {
     private static final int RUNS = Integer.getInteger("runs", 160);
     private static final int CALLS = 120;
+    private static final int[] ENDS = {Integer.MIN_VALUE, Integer.MIN_VALUE + 1, -1000, -2, -1, 0, 1, 9, 10, 23, 24, 31, 32, 33, 63, 64,
+        255, 256, 998, 999, 1000, 1001, 1 << 24, 1 << 30, Integer.MAX_VALUE - 1, Integer.MAX_VALUE};
     private static int wrong = 0;
 
     private long seed;
@@ -158,7 +160,10 @@ public final class ModelTest {
         same("fault()", real.fault(), model.fault());
     }
 
-    private int anyOrder() { return draw(12) == 0 ? draw(40) - 8 : draw(Math.max(1, model.now(0))); }
+    /** Now and then any number at all may be asked for. */
+    private int wild(int v) { return draw(24) == 0 ? ENDS[draw(ENDS.length)] : v; }
+
+    private int anyOrder() { return wild(draw(12) == 0 ? draw(40) - 8 : draw(Math.max(1, model.now(0)))); }
 
     private void act() {
         int o = anyOrder();
@@ -166,13 +171,13 @@ public final class ModelTest {
             case 0: case 1: case 2: comeDrawn(); break;
             case 3: same("withdraw(" + o + ")", real.withdraw(o), model.withdraw(o)); break;
             case 4: case 5: case 6: {
-                int what = draw(15) == 0 ? draw(5) - 1 : draw(2);
-                int v = what == 0 ? draw(scale + 2) : draw(12) == 0 ? draw(1100) - 50 : limit(draw(2) == 0);
+                int what = wild(draw(15) == 0 ? draw(5) - 1 : draw(2));
+                int v = wild(what == 0 ? draw(scale + 2) : draw(12) == 0 ? draw(1100) - 50 : limit(draw(2) == 0));
                 same("amend(" + o + "," + what + "," + v + ")", real.amend(o, what, v), model.amend(o, what, v));
                 break;
             }
             case 7: {
-                int v = draw(12) == 0 ? draw(1100) - 50 : price();
+                int v = wild(draw(12) == 0 ? draw(1100) - 50 : price());
                 same("mid(" + v + ")", real.mid(v), model.mid(v));
                 break;
             }
@@ -185,11 +190,11 @@ public final class ModelTest {
     }
 
     private void comeDrawn() {
-        int size = draw(9) == 0 ? draw(1100) - 50 : size();
-        int least = draw(9) == 0 ? draw(1100) - 50 : least(Math.max(1, size));
-        int side = draw(15) == 0 ? draw(5) - 2 : draw(2);
-        int limit = draw(15) == 0 ? draw(1100) - 50 : limit(side == 1);
-        int firm = draw(15) == 0 ? draw(9) - 1 : draw(firms);
+        int size = wild(draw(9) == 0 ? draw(1100) - 50 : size());
+        int least = wild(draw(9) == 0 ? draw(1100) - 50 : least(Math.max(1, size)));
+        int side = wild(draw(15) == 0 ? draw(5) - 2 : draw(2));
+        int limit = wild(draw(15) == 0 ? draw(1100) - 50 : limit(side == 1));
+        int firm = wild(draw(15) == 0 ? draw(9) - 1 : draw(firms));
         same("come(" + side + "," + size + "," + least + "," + limit + "," + firm + ")",
             real.come(side, size, least, limit, firm), model.come(side, size, least, limit, firm));
     }
@@ -197,7 +202,7 @@ public final class ModelTest {
     private void stray() {
         int a = draw(1 << 20) * 4001;
         same("feed(" + a + ")", real.feed(a, -a, ~a, a >> 3, a << 5), model.feed(a, -a, ~a, a >> 3, a << 5));
-        int n = draw(30) - 3;
+        int n = wild(draw(30) - 3);
         same("end(" + n + ")", real.end(n) ? 1 : 0, model.end(n) ? 1 : 0);
         if (draw(2) == 0) same("text()", real.text(), model.text());
         same("fault()", real.fault(), model.fault());
@@ -206,12 +211,12 @@ public final class ModelTest {
     private void ask() {
         int o = anyOrder();
         switch (draw(11)) {
-            case 0: for (int w = -1; w <= 10; w++) same("now(" + w + ")", real.now(w), model.now(w)); break;
-            case 1: for (int w = 0; w <= 8; w++) askOrder(o, w); askOrder(o, draw(13) - 2); break;
-            case 2: { int k = draw(13) - 1; same("rank(" + k + ")", real.rank(k), model.rank(k)); break; }
+            case 0: askNow(); break;
+            case 1: for (int w = 0; w <= 8; w++) askOrder(o, w); askOrder(o, wild(draw(13) - 2)); break;
+            case 2: { int k = wild(draw(13) - 1); same("rank(" + k + ")", real.rank(k), model.rank(k)); break; }
             case 3: {
-                int m = draw(12) == 0 ? draw(1100) - 50 : price();
-                int w = draw(12) == 0 ? draw(6) - 2 : draw(2);
+                int m = wild(draw(12) == 0 ? draw(1100) - 50 : price());
+                int w = wild(draw(12) == 0 ? draw(6) - 2 : draw(2));
                 same("chosen(" + m + "," + w + ")", real.chosen(m, w), model.chosen(m, w));
                 break;
             }
@@ -220,14 +225,21 @@ public final class ModelTest {
             case 6: {
                 int set = (draw(1 << 24) | draw(1 << 24)) & (draw(9) == 0 ? -1 : willing());
                 if (draw(30) == 0) set |= 1 << 24 + draw(8);
+                set = wild(set);
                 same("volume(" + set + ")", real.volume(set), model.volume(set));
                 break;
             }
             case 7: if (draw(2) == 0) same("best()", real.best(), model.best()); break;
-            case 8: { int l = draw(scale + 2); same("were(" + o + "," + l + ")", real.were(o, l), model.were(o, l)); break; }
+            case 8: { int l = wild(draw(scale + 2)); same("were(" + o + "," + l + ")", real.were(o, l), model.were(o, l)); break; }
             case 9: same("worth(" + o + ")", real.worth(o), model.worth(o)); break;
             default: if (draw(2) == 0) same("reach(" + o + ")", real.reach(o), model.reach(o)); break;
         }
+    }
+
+    private void askNow() {
+        for (int w = -1; w <= 10; w++) same("now(" + w + ")", real.now(w), model.now(w));
+        int w = wild(0);
+        same("now(" + w + ")", real.now(w), model.now(w));
     }
 
     private int willing() {
